@@ -8,7 +8,8 @@ import java.util.List;
  */
 public final class ModelTest {
     private static final int RUNS = 300;
-    private static final int CALLS = 500;
+    /** Nothing is promised of an object's later calls. */
+    private static final int CALLS = 512;
     private static int wrong = 0;
 
     public static void main(String[] args) {
@@ -454,6 +455,9 @@ public final class ModelTest {
         }
     }
 
+    private static final class RunIsOver extends RuntimeException {
+    }
+
     /** One object, its model, and a row of calls. */
     private static final class Run {
         private static final int[] ODD = {Integer.MIN_VALUE, -1000, -3, -2, -1, 12, 13, 24, 199, 200, 201, Integer.MAX_VALUE};
@@ -477,7 +481,15 @@ public final class ModelTest {
         }
 
         void go() {
-            while (calls < CALLS && wrong < 20) {
+            try {
+                play();
+            } catch (RunIsOver e) {
+                return;
+            }
+        }
+
+        void play() {
+            while (wrong < 20) {
                 makeJobs();
                 if (below(3) > 0) {
                     makeLevels();
@@ -511,6 +523,9 @@ public final class ModelTest {
             if (!got.equals(want)) {
                 wrong++;
                 System.out.println("run " + number + ": " + said + "due is " + want);
+            }
+            if (calls == CALLS) {
+                throw new RunIsOver();
             }
         }
 
@@ -569,7 +584,7 @@ public final class ModelTest {
             try {
                 got = String.valueOf(kernel.split());
             } catch (IllegalStateException e) {
-                got = "IllegalStateException";
+                got = e.getClass().getSimpleName();
             }
             due("split()", got, model.split());
         }
@@ -578,10 +593,8 @@ public final class ModelTest {
             String got;
             try {
                 got = String.valueOf(kernel.step(kind, i, part));
-            } catch (IndexOutOfBoundsException e) {
-                got = "IndexOutOfBoundsException";
-            } catch (IllegalArgumentException e) {
-                got = "IllegalArgumentException";
+            } catch (IndexOutOfBoundsException | IllegalArgumentException e) {
+                got = e.getClass().getSimpleName();
             }
             due("step(" + kind + ", " + i + ", " + part + ")", got, model.step(kind, i, part));
         }

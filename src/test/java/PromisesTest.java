@@ -74,9 +74,9 @@ public final class PromisesTest {
         try {
             return String.valueOf(x.step(kind, i, part));
         } catch (IndexOutOfBoundsException e) {
-            return "index";
+            return e.getClass() == IndexOutOfBoundsException.class ? "index" : e.toString();
         } catch (IllegalArgumentException e) {
-            return "argument";
+            return e.getClass() == IllegalArgumentException.class ? "argument" : e.toString();
         }
     }
 
@@ -84,7 +84,7 @@ public final class PromisesTest {
         try {
             return String.valueOf(x.split());
         } catch (IllegalStateException e) {
-            return "state";
+            return e.getClass() == IllegalStateException.class ? "state" : e.toString();
         }
     }
 
